@@ -18,6 +18,8 @@ public final class CopyWhileRun {
     private static final int MOST_TOLD = 40;
     private static final int MOST_ACTS = 20;
     private static final int MOST_EVENTS = 60;
+    // A copy ends by an event of its own ahead of the next one's beginning.
+    private static final int MOST_COPIES = 30;
     private static final int MOST_NUMBERS = 60;
     private static final int MOST_IMAGES = 3;
     private static final int MOST_SLOTS = 4;
@@ -47,6 +49,7 @@ public final class CopyWhileRun {
     private static final int IS_WHOLE = 1;
     private static final int IS_TORN = 2;
 
+    private static final int EVEN_CELLS = 0x55555555;
     private static final int[] NUMBERS_OF_KIND = {2, 2, 2, 3, 0, 0, 1, 0, 0};
 
     private final Reader reader = new Reader();
@@ -54,7 +57,9 @@ public final class CopyWhileRun {
     private final Script spare = new Script();
     private final Script[] images = new Script[MOST_IMAGES];
     private final Slot[] slots = new Slot[MOST_SLOTS];
+    // As told, with acts, up to some tick; a trial is played with events left out, or by another law.
     private final Run run = new Run();
+    private final Run trial = new Run();
     private final Board board = new Board();
     private final Board beside = new Board();
     private final int[] worths = new int[1 << PLAYERS];
@@ -99,6 +104,7 @@ public final class CopyWhileRun {
             return FAULTY;
         }
         script.become(spare);
+        playAnew();
         return script.lines();
     }
 
@@ -130,16 +136,16 @@ public final class CopyWhileRun {
         if (!hasCell(cell) || !hasTick(tick)) {
             return NOT_SUCH;
         }
-        board.play(script, tick, 0L);
-        return board.cellAt(cell);
+        playTo(tick);
+        return run.now.cellAt(cell);
     }
 
     public int sum(int tick) {
         if (!hasTick(tick)) {
             return NOT_SUCH;
         }
-        board.play(script, tick, 0L);
-        return board.total();
+        playTo(tick);
+        return run.now.total();
     }
 
     public int changes(int event) {
@@ -385,13 +391,13 @@ public final class CopyWhileRun {
         }
         int found = 0;
         int most = 0;
-        run.clear(script.cells, script.scanLaw);
-        for (int i = 0; i < script.size(); i++) {
-            run.step(script, i);
-            int now = i + 1 - run.chainMark();
+        playAnew();
+        for (int tick = 1; tick <= script.size(); tick++) {
+            playTo(tick);
+            int now = tick - run.chainMark();
             if (now > most) {
                 most = now;
-                found = i + 1;
+                found = tick;
             }
         }
         return found;
@@ -601,8 +607,8 @@ public final class CopyWhileRun {
     }
 
     private int rescuedByLaw(int law) {
-        run.play(script, law, script.size(), 0L);
-        return run.allRescued();
+        trial.play(script, law, script.size(), 0L);
+        return trial.allRescued();
     }
 
     // ---- shares and the game: promises 47 to 50
@@ -686,8 +692,8 @@ public final class CopyWhileRun {
     }
 
     private int wholeWithout(int event, int other, int x, int y) {
-        run.play(script, script.scanLaw, script.size(), (long) x << event | (long) y << other);
-        return run.sizes(IS_WHOLE);
+        playWithout((long) x << event | (long) y << other);
+        return trial.sizes(IS_WHOLE);
     }
 
     // ---- chance: promises 51 and 52
@@ -716,8 +722,8 @@ public final class CopyWhileRun {
             int gone = Integer.bitCount(set);
             long weight = power(script.odds, gone) * power(10 - script.odds, k - gone);
             if (weight != 0L) {
-                run.play(script, script.scanLaw, script.size(), (long) set << script.size() - k);
-                above += weight * Integer.bitCount(run.dirtyCells & asked);
+                playWithout((long) set << script.size() - k);
+                above += weight * Integer.bitCount(trial.dirtyCells & asked);
             }
         }
         return above;
@@ -754,6 +760,7 @@ public final class CopyWhileRun {
             return EXHAUSTED;
         }
         script.acts--;
+        playAnew();
         return script.acts;
     }
 
@@ -763,6 +770,7 @@ public final class CopyWhileRun {
         }
         int were = script.acts;
         script.acts = 0;
+        playAnew();
         return were;
     }
 
@@ -776,8 +784,8 @@ public final class CopyWhileRun {
         if (what == 0) {
             return Long.bitCount(out);
         }
-        run.play(script, script.scanLaw, script.size(), out);
-        return Integer.bitCount(run.dirtyCells);
+        playWithout(out);
+        return Integer.bitCount(trial.dirtyCells);
     }
 
     public int luck(int seed, int n, int cell) {
@@ -786,8 +794,8 @@ public final class CopyWhileRun {
         }
         int found = 0;
         for (int i = 0; i < n; i++) {
-            run.play(script, script.scanLaw, script.size(), drawOut((long) seed + i));
-            if (holds(run.dirtyCells, cell)) {
+            playWithout(drawOut((long) seed + i));
+            if (holds(trial.dirtyCells, cell)) {
                 found++;
             }
         }
@@ -858,6 +866,7 @@ public final class CopyWhileRun {
             return NOTHING;
         }
         script.become(images[k]);
+        playAnew();
         return 0;
     }
 
@@ -953,8 +962,22 @@ public final class CopyWhileRun {
         return run.copyOf(copy);
     }
 
+    private void playAnew() {
+        run.clear(script.cells, script.scanLaw);
+    }
+
+    /** What has been played up to an earlier tick goes on: most calls ask for one tick after another. */
     private void playTo(int tick) {
-        run.play(script, script.scanLaw, tick, 0L);
+        if (tick < run.reached) {
+            playAnew();
+        }
+        for (int i = run.reached; i < tick && i < MOST_EVENTS; i++) {
+            run.step(script, i);
+        }
+    }
+
+    private void playWithout(long out) {
+        trial.play(script, script.scanLaw, script.size(), out);
     }
 
     // ---- small reckoning
@@ -1349,18 +1372,15 @@ public final class CopyWhileRun {
                     int was = cellAt(first);
                     return put(first, cellAt(second)) | put(second, was);
                 case FILL:
-                    return fillCells(first, second, script.numberOf(event, 2));
+                    int v = script.numberOf(event, 2);
+                    int changed = 0;
+                    for (int i = first; i <= second && i < MOST_CELLS; i++) {
+                        changed |= put(i, v);
+                    }
+                    return changed;
                 default:
                     return 0;
             }
-        }
-
-        private int fillCells(int first, int last, int v) {
-            int changed = 0;
-            for (int i = first; i <= last && i < MOST_CELLS; i++) {
-                changed |= put(i, v);
-            }
-            return changed;
         }
 
         /** Answers the cell as a bit, if it changes. */
@@ -1463,22 +1483,25 @@ public final class CopyWhileRun {
 
     /** Events played one by one, with the copies that they make. */
     private static final class Run {
+        final Board now = new Board();
+        int reached;
         int dirtyCells;
         int begun;
-        int openCopy;
+        int openCopy = NONE;
         // Of the event that was played last.
         int reason;
         int changed;
         int rescuedNow;
         private int cells;
         private int scanLaw;
-        private final Board now = new Board();
+        private boolean anyWhole;
         private final Board ahead = new Board();
         private final int[] latestOf = new int[MOST_CELLS];
-        private final Copy[] made = new Copy[MOST_EVENTS];
+        private final int[] changedBy = new int[MOST_EVENTS];
+        private final Copy[] made = new Copy[MOST_COPIES];
 
         Run() {
-            for (int i = 0; i < MOST_EVENTS; i++) {
+            for (int i = 0; i < MOST_COPIES; i++) {
                 made[i] = new Copy();
             }
         }
@@ -1487,13 +1510,16 @@ public final class CopyWhileRun {
             cells = Math.max(0, Math.min(n, MOST_CELLS));
             scanLaw = law;
             now.clear(cells);
+            reached = 0;
             dirtyCells = 0;
             begun = 0;
             openCopy = NONE;
+            anyWhole = false;
             reason = 0;
             changed = 0;
             rescuedNow = 0;
             Arrays.fill(latestOf, NONE);
+            Arrays.fill(changedBy, 0);
         }
 
         void play(Script script, int law, int ticks, long out) {
@@ -1506,6 +1532,7 @@ public final class CopyWhileRun {
         }
 
         void step(Script script, int event) {
+            reached = event + 1;
             changed = 0;
             rescuedNow = 0;
             int kind = script.kindOf(event);
@@ -1515,7 +1542,7 @@ public final class CopyWhileRun {
             }
             switch (kind) {
                 case FULL:
-                    begin(true, event, (int) ((1L << cells) - 1L));
+                    begin(true, event, allCells());
                     break;
                 case PART:
                     begin(false, event, dirtyCells);
@@ -1542,70 +1569,78 @@ public final class CopyWhileRun {
                 if (isOpen) {
                     return 1;
                 }
-                return kind == PART && lastWhole() == NONE ? 3 : 0;
+                return kind == PART && !anyWhole ? 3 : 0;
             }
             return kind > PART && !isOpen ? 2 : 0;
+        }
+
+        private int allCells() {
+            return (int) ((1L << cells) - 1L);
         }
 
         private void command(Script script, int event) {
             ahead.becomeCells(now);
             changed = now.apply(script, event);
-            Copy one = copyOf(openCopy);
+            if (changed == 0 || event < 0 || event >= MOST_EVENTS) {
+                return;
+            }
+            changedBy[event] = changed;
+            dirtyCells |= changed;
             for (int i = 0; i < cells; i++) {
                 if (holds(changed, i)) {
                     latestOf[i] = event;
-                    if (one != null && holds(one.missing(), i)) {
-                        one.keep(i, ahead.cellAt(i));
-                        one.rescued |= 1 << i;
-                        rescuedNow |= 1 << i;
-                    }
                 }
             }
-            dirtyCells |= changed;
+            Copy one = copyOf(openCopy);
+            if (one != null) {
+                rescuedNow = changed & one.missing();
+                one.rescued |= rescuedNow;
+                keepLowest(one, rescuedNow, MOST_CELLS, ahead);
+            }
         }
 
         private void begin(boolean all, int event, int wanted) {
-            if (begun < MOST_EVENTS) {
+            if (begun < MOST_COPIES) {
                 made[begun].begin(all, event, wanted);
                 openCopy = begun;
                 begun++;
             }
         }
 
+        /** Keeps the next n cells by the law. */
         private void keepNext(int n) {
             Copy one = copyOf(openCopy);
-            for (int i = 0; i < n && i < MOST_CELLS && one != null; i++) {
-                int cell = nextOf(one.missing());
-                if (cell == NONE) {
-                    return;
+            if (one == null) {
+                return;
+            }
+            int most = one.size + n;
+            if (scanLaw == 1) {
+                keepHighest(one, most);
+            } else if (scanLaw == 2) {
+                for (int i = Math.min(reached, MOST_EVENTS) - 1; i >= 0; i--) {
+                    keepLowest(one, one.missing() & changedBy[i], most, now);
                 }
-                one.keep(cell, now.cellAt(cell));
+            } else if (scanLaw == 3) {
+                keepLowest(one, one.missing() & EVEN_CELLS, most, now);
+            }
+            keepLowest(one, one.missing(), most, now);
+        }
+
+        /** Keeps cells of a set, the least first, as long as the copy has kept fewer than most. */
+        private void keepLowest(Copy one, int set, int most, Board from) {
+            for (int i = 0; i < cells && set != 0 && one.size < most; i++) {
+                if (holds(set, i)) {
+                    one.keep(i, from.cellAt(i));
+                }
             }
         }
 
-        private int nextOf(int missing) {
-            int found = NONE;
-            int least = 0;
-            for (int i = 0; i < cells; i++) {
-                if (holds(missing, i) && (found == NONE || rank(i) < least)) {
-                    found = i;
-                    least = rank(i);
+        private void keepHighest(Copy one, int most) {
+            int set = one.missing();
+            for (int i = cells - 1; i >= 0 && one.size < most; i--) {
+                if (holds(set, i)) {
+                    one.keep(i, now.cellAt(i));
                 }
-            }
-            return found;
-        }
-
-        /** The less it is, the earlier the cell is scanned. */
-        private int rank(int cell) {
-            switch (scanLaw) {
-                case 1:
-                    return -cell;
-                case 2:
-                    return cell - latestChange(cell) * MOST_CELLS;
-                case 3:
-                    return cell % 2 * MOST_CELLS + cell;
-                default:
-                    return cell;
             }
         }
 
@@ -1620,6 +1655,7 @@ public final class CopyWhileRun {
                     dirtyCells |= 1 << i;
                 }
             }
+            anyWhole = true;
             endOpen(IS_WHOLE, tick);
         }
 
@@ -1636,7 +1672,7 @@ public final class CopyWhileRun {
         }
 
         Copy copyOf(int i) {
-            return i >= 0 && i < begun && i < MOST_EVENTS ? made[i] : null;
+            return i >= 0 && i < begun && i < MOST_COPIES ? made[i] : null;
         }
 
         private boolean isWhole(int i) {
@@ -1647,7 +1683,7 @@ public final class CopyWhileRun {
         /** How many cells are kept by all copies of a state. */
         int sizes(int state) {
             int found = 0;
-            for (int i = 0; i < begun && i < MOST_EVENTS; i++) {
+            for (int i = 0; i < begun && i < MOST_COPIES; i++) {
                 if (made[i].state == state) {
                     found += made[i].size;
                 }
@@ -1657,7 +1693,7 @@ public final class CopyWhileRun {
 
         int allRescued() {
             int found = 0;
-            for (int i = 0; i < begun && i < MOST_EVENTS; i++) {
+            for (int i = 0; i < begun && i < MOST_COPIES; i++) {
                 found += Integer.bitCount(made[i].rescued);
             }
             return found;

@@ -161,7 +161,7 @@ public final class FaceTest {
     private static void noObjectsByCalls() throws Exception {
         for (String line : code().split("\n")) {
             boolean made = line.matches(".*\\bnew\\b.*");
-            boolean field = line.matches(" {4}( {4})?private final .* = new .*;");
+            boolean field = line.matches(" {4}( {4})?(private )?final .* = new .*;");
             boolean constructor = line.matches(" {12}( {4})?(images|slots|made)\\[i\\] = new \\w+\\(\\);");
             mustHold(!made || field || constructor, "made by a call: " + line);
         }
