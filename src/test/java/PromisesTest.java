@@ -213,6 +213,13 @@ public final class PromisesTest {
         faultOf(HEAD + "cells 4;", 1, 27);
         faultOf(HEAD + "se 0 1;", 1, 27);
         faultOf(HEAD + "sett 0 1;", 1, 27);
+        faultOf(HEAD + "zet 0 1;", 1, 27);
+        faultOf(HEAD + "setz 0 1;", 1, 27);
+        faultOf(HEAD + "set 0 1z;", 1, 34);
+        faultOf(HEAD + "set 0 1`;", 1, 34);
+        faultOf(HEAD + "set 0 1{;", 1, 34);
+        faultOf(HEAD + "set 0 1/;", 1, 34);
+        faultOf(HEAD + "set 0 1:;", 1, 34);
         faultOf(HEAD + "set 4 1;", 2, 31);
         faultOf(HEAD + "set 3 256;", 2, 33);
         faultOf(HEAD + "set 3 99999999999999999999999;", 2, 33);
@@ -469,7 +476,10 @@ public final class PromisesTest {
                 -2, 0, 1, 2, 3, 4, 5, 6, 7, 8, 9, 10, 2, 3, 4, 5, 6, 5, -2);
         due(35, "worst()", x.worst(), 10);
         due(35, "worst(), nothing done", tell(HEAD).worst(), 0);
-        due(35, "worst(), the first of several", tell(HEAD + "full;finish;full;finish;").worst(), 3);
+        due(35, "worst(), the first of several", tell(HEAD + "tear;full;finish;").worst(), 2);
+        due(35, "worst(), one event", tell(HEAD + "tear;").worst(), 1);
+        // age is 0, 1, 2, then from mark 1 on 2, 3, then from mark 3 on 2
+        due(35, "worst(), between copies", tell(HEAD + "tear;full;finish;full;finish;").worst(), 4);
         due(35, "worst(), no store", new CopyWhileRun().worst(), -2);
         for (int i = 0; i < 6; i++) {
             x.does(0, 0, 1, 0);
@@ -485,6 +495,9 @@ public final class PromisesTest {
         due(36, "differ(-1, 0)", x.differ(-1, 0), -2);
         dueAll(37, "same", each(-1, 17, x::same),
                 -2, 0, 1, 2, 3, 4, 4, 4, 4, 8, 8, 8, 8, 8, 8, 14, 14, 14, -2);
+        dueAll(36, "differ(0, .)", each(0, 4, t -> x.differ(0, t)), 0, 1, 1, 1, 3);
+        dueAll(36, "differ(1, .)", each(0, 4, t -> x.differ(1, t)), 1, 0, 1, 2, 3);
+        dueAll(36, "differ(., 1)", each(0, 4, t -> x.differ(t, 1)), 1, 0, 1, 2, 3);
         due(37, "same, gone back", tell(HEAD + "set 0 1;set 0 0;").same(2), 0);
         due(37, "same, two cells", tell(HEAD + "set 0 1;swap 0 1;swap 1 0;").same(3), 1);
     }
@@ -507,6 +520,14 @@ public final class PromisesTest {
         due(38, "pace(2) of two", one.pace(2), 4);
         // 5 and twice 1, or 4 and twice 2
         due(39, "best()", one.best(), 1);
+        // 21 commands, each of all cells: 20 makes one part, and leaves one command to replay
+        StringBuilder many = new StringBuilder("store cells 32 law 0 odds 0;");
+        for (int i = 1; i <= 21; i++) {
+            many.append("fill 0 31 ").append(i).append(";");
+        }
+        CopyWhileRun wide = tell(many.toString());
+        dueAll(38, "pace of wide ones", each(17, 20, wide::pace), 64, 64, 64, 64);
+        due(39, "best(), the last", wide.best(), 20);
     }
 
     private static void leftOut() {
@@ -525,6 +546,9 @@ public final class PromisesTest {
         due(41, "idle() with acts", z.idle(), 1);
         due(41, "idle(), acts are not told", acted().idle(), -1);
         due(40, "blame(), acts are not told", acted().blame(), -1);
+        CopyWhileRun first = tell(HEAD + "set 0 1;");
+        due(40, "blame(), the first event", first.blame(), 0);
+        due(41, "idle(), none", first.idle(), -1);
         due(40, "blame(), no store", new CopyWhileRun().blame(), -2);
         due(41, "idle(), no store", new CopyWhileRun().idle(), -2);
     }
@@ -642,6 +666,13 @@ public final class PromisesTest {
         due(47, "an act's bit does not count", y.worth(0), 1);
         CopyWhileRun eight = tell(HEAD + "set 0 1;".repeat(8));
         dueAll(48, "of eight", new int[] {eight.share(7, 0), eight.share(7, 1)}, 1, 8);
+        CopyWhileRun nine = tell(HEAD + "set 0 1;".repeat(8) + "set 1 1;");
+        dueAll(48, "the ninth is none of them", new int[] {nine.share(8, 0), nine.share(8, 1)}, -1000, -1000);
+        dueAll(48, "of eight, a ninth behind", new int[] {nine.share(0, 0), nine.share(0, 1)}, 1, 8);
+        due(47, "the ninth stays", nine.worth(0), 1);
+        CopyWhileRun late = tell(HEAD + "full;tear;set 0 1;set 1 1;");
+        dueAll(48, "by events, not by commands", new int[] {late.share(2, 0), late.share(2, 1), late.worth(3),
+            late.worth(4), late.worth(12)}, 1, 1, 0, 1, 2);
         CopyWhileRun whole = tell(HEAD + "fill 0 2 1;");
         dueAll(48, "of one alone", new int[] {whole.share(0, 0), whole.share(0, 1)}, 3, 1);
     }
@@ -658,6 +689,7 @@ public final class PromisesTest {
         due(50, "gets(2, 1, 0, 1)", y.gets(2, 1, 0, 1), 8);
         due(49, "rests, two tear", tell("store cells 8 law 0 odds 0;full;tear;tear;finish;").rests(1, 2), 9);
         due(49, "rests, as much by both", tell("store cells 3 law 0 odds 0;full;tear;finish;").rests(1, 2), 3);
+        due(49, "rests, the other way", tell("store cells 3 law 0 odds 0;full;tear;finish;").rests(2, 1), 5);
         due(49, "rests(0, 0)", y.rests(0, 0), -2);
         due(49, "rests(0, 3)", y.rests(0, 3), -2);
         due(49, "rests(-1, 0)", y.rests(-1, 0), -2);
