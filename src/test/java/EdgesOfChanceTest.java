@@ -147,6 +147,13 @@ public final class EdgesOfChanceTest {
         s.due("value(0, 2)", x.value(0, 2), 1);
         s.due("of one", x.undo(), 0);
         s.due("no COPY", x.copy(0, 0), -2);
+        x.does(0, 0, 7, 0);
+        s.due("undo() at once", x.undo(), 0);
+        s.due("another act at once", x.does(6, 1, 0, 0), 2);
+        s.due("it is REFUSED", x.refused(1), 2);
+        s.due("nothing CHANGES", x.changes(1), 0);
+        s.due("value(0, 2)", x.value(0, 2), 1);
+        s.due("undo() again", x.undo(), 0);
         CopyWhileRun most = Sentences.tell(HEAD);
         for (int i = 0; i < 20; i++) {
             most.does(8, 0, 0, 0);
@@ -178,6 +185,9 @@ public final class EdgesOfChanceTest {
         s.due("there is no TICK 3", x.open(3), -2);
         s.due("EVENTS told stay", x.count(3), 2);
         s.due("an act can be done", x.does(7, 0, 0, 0), 0);
+        s.due("anew() at once", x.anew(), 1);
+        s.due("another act at once", x.does(4, 0, 0, 0), 1);
+        s.due("the COPY is OPEN", x.open(3), 0);
         s.of(55, "-2 likewise");
         s.withoutStore("anew()", -2, CopyWhileRun::anew);
     }

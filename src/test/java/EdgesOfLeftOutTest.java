@@ -192,6 +192,13 @@ public final class EdgesOfLeftOutTest {
         x.does(3, 0, 5, 1);
         s.row("by, with acts", 0, x::by, 9, 6, 8, 8);
         s.row("no COPY", 0, k -> Sentences.tell(HEAD + "set 0 1;").by(k), 0, 0, 0, 0);
+        Sentences.feedText(x, HEAD + "set 0 1;");
+        x.store();
+        s.row("no COPY, where there were some", 0, x::by, 0, 0, 0, 0);
+        // event 2 would have CHANGED cell 1, had event 0 been left out
+        CopyWhileRun late = Sentences.tell(HEAD + "set 1 1;set 0 1;set 1 1;full;scan 1;set 0 2;");
+        s.due("event 0 is left out", late.gets(0, 1, 1, 0), -3);
+        s.due("it is there again", late.by(2), 0);
         s.of(45, "-2: there is none such (0 .. 3), no STORE");
         s.all("by", -2, x::by, -1, 4, 5, MOST, LEAST);
         s.withoutStore("by(0)", -2, y -> y.by(0));
@@ -246,6 +253,13 @@ public final class EdgesOfLeftOutTest {
         s.row("share(2)", 0, w -> x.share(2, w), -1, 2);
         CopyWhileRun y = Sentences.tell(HEAD + "fill 0 3 1;fill 0 3 0;");
         s.row("a whole number", 0, w -> y.share(1, w), -2, 1);
+        Sentences.feedText(y, HEAD + "set 0 1;set 1 1;set 2 1;");
+        y.store();
+        s.row("of three", 0, w -> y.share(2, w), 1, 1);
+        Sentences.feedText(y, HEAD + "set 0 1;full;set 0 0;");
+        y.store();
+        s.row("of two, where there were three", 0, w -> y.share(2, w), -1, 2);
+        s.row("the first of two", 0, w -> y.share(0, w), 1, 2);
         s.of(48, "-1,000: there are none such");
         s.all("share(., 0)", -1000, e -> x.share(e, 0), -1, 0, 4, 5, 6, 8, 9, 10, MOST, LEAST);
         s.all("share(., 1)", -1000, e -> x.share(e, 1), -1, 0, 8, 32, 33, MOST, LEAST);
@@ -261,6 +275,7 @@ public final class EdgesOfLeftOutTest {
         s.of(49, "GAME (VIII): pairs of choices of two EVENTS told at REST, as bits: 1 neither is left out, "
                 + "2 the first one is, 4 the other one, 8 both");
         s.due("1", Sentences.tell(HEAD + "full;finish;").rests(0, 1), 1);
+        s.due("1, neither counts", Sentences.tell(HEAD + "full;finish;set 0 1;set 1 1;").rests(2, 3), 1);
         CopyWhileRun x = Sentences.tell(HEAD + "full;tear;finish;");
         s.due("2", x.rests(1, 2), 2);
         s.due("4", x.rests(2, 1), 4);

@@ -118,6 +118,27 @@ public final class EdgesOfRowsTest {
         x.back(1);
         x.back(2);
         s.due("twenty acts are kept", x.count(4), 20);
+        CopyWhileRun y = Sentences.tell(HEAD + "tear;".repeat(40));
+        y.image(0);
+        for (int i = 0; i < 20; i++) {
+            y.does(3, 1, 2, 20 + i);
+        }
+        y.image(1);
+        y.anew();
+        for (int i = 0; i < 20; i++) {
+            y.does(3, 0, 3, 40 + i);
+        }
+        s.due("back to twenty behind forty", y.back(1), 0);
+        s.row("value(1)", 40, t -> y.value(1, t), 0, 20, 21);
+        s.row("value(0)", 40, t -> y.value(0, t), 0, 0, 0);
+        s.due("value(2, 60)", y.value(2, 60), 39);
+        s.row("the last act", 0, w -> y.event(59, w), 3, 1, 2, 39);
+        s.due("back to none", y.back(0), 0);
+        s.due("an act at once", y.does(4, 0, 0, 0), 0);
+        s.due("it is done", y.open(41), 0);
+        s.due("back to none", y.back(0), 0);
+        s.due("another act at once", y.does(8, 0, 0, 0), 2);
+        s.due("it is REFUSED", y.refused(40), 2);
         s.of(60, "-2: no such k");
         s.all("back", -2, x::back, NO_IMAGES);
         s.all("back, a new object", -2, k -> new CopyWhileRun().back(k), NO_IMAGES);
@@ -125,11 +146,11 @@ public final class EdgesOfRowsTest {
         s.due("image 0 was never made", x.back(0), -6);
         s.due("all stays", x.count(4), 20);
         s.row("a new object", 0, k -> new CopyWhileRun().back(k), -6, -6, -6);
-        CopyWhileRun y = Sentences.tell(HEAD);
-        y.image(3);
-        y.image(-1);
-        s.row("refused ones", 0, y::back, -6, -6, -6);
-        s.due("the STORE stays", y.count(5), 1);
+        CopyWhileRun z = Sentences.tell(HEAD);
+        z.image(3);
+        z.image(-1);
+        s.row("refused ones", 0, z::back, -6, -6, -6);
+        s.due("the STORE stays", z.count(5), 1);
     }
 
     /** Whether a number of a slot's row is v: told by an act, it is what cell 0 has at tick 1. */

@@ -149,6 +149,18 @@ public final class EdgesOfStoresTest {
         s.due("store() again, an empty tape", x.store(), 0);
         s.due("there is none again", x.count(5), 0);
         s.due("the longest text", Sentences.reads(HEAD + " ".repeat(668) + "tear;"), 2);
+        Sentences.feedText(x, "store cells 9 law 3 odds 7;tear;#");
+        s.due("a fault behind a head", x.store(), -4);
+        s.due("an empty tape behind it", x.store(), 0);
+        s.row("nothing of it is left", 0, x::count, 0, 0, 0, 0, 0, 0);
+        Sentences.feedText(x, "store cells 4 law 2 odds 9;set 3 1;set 1 1;full;scan 32;");
+        x.store();
+        s.row("order by what was CHANGED", 0, i -> x.order(0, i), 1, 3, 0, 2);
+        Sentences.feedText(x, "store cells 4 law 2 odds 9;set 3 0;tear;full;scan 32;");
+        x.store();
+        s.row("what another STORE CHANGED does not count", 0, i -> x.order(0, i), 0, 1, 2, 3);
+        x.store();
+        s.row("there is none, whatever there was", 0, x::count, 0, 0, 0, 0, 0, 0);
         s.of(4, "-4: a FAULT (all stays)");
         CopyWhileRun y = Sentences.tell(HEAD + "set 0 1;full;");
         y.does(0, 1, 9, 0);

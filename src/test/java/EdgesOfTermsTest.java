@@ -157,6 +157,11 @@ public final class EdgesOfTermsTest {
         s.faulty(HEAD + "fulls;", 1, 27);
         s.faulty(HEAD + "fullfull;", 1, 27);
         s.faulty(HEAD + "set 01 01 1;", 1, 37);
+        s.faulty(HEAD + "fullz;", 1, 27);
+        s.faulty(HEAD + "fulla;", 1, 27);
+        s.faulty(HEAD + "afull;", 1, 27);
+        s.faulty(HEAD + "zfull;", 1, 27);
+        s.due("a number of noughts and nines", Sentences.tell(HEAD + "set 0 099;set 0 90;").event(0, 2), 99);
         s.due("the longest number", Sentences.tell(HEAD + "set 0 12;").event(0, 2), 12);
         s.due("noughts ahead", Sentences.tell(HEAD + "set 0003 000000000000000000012;").event(0, 2), 12);
         s.faulty(HEAD + "`full;", 1, 27);
@@ -195,6 +200,14 @@ public final class EdgesOfTermsTest {
         s.faulty(FORTY + "7;", 1, 227);
         s.faulty(FORTY + "?", 1, 227);
         s.faulty(HEAD + "law 1;", 1, 27);
+        s.faulty(HEAD + "pull;", 1, 27);
+        s.faulty(HEAD + "fuel;", 1, 27);
+        s.faulty(HEAD + "fulk;", 1, 27);
+        s.faulty(HEAD + "ful;", 1, 27);
+        s.faulty("stare cells 4 law 0 odds 5;", 1, 0);
+        s.faulty("store bells 4 law 0 odds 5;", 1, 6);
+        s.faulty("store cells 4 lay 0 odds 5;", 1, 14);
+        s.faulty("store cells 4 law 0 adds 5;", 1, 20);
         s.of(TERMS, "2 a number out of its bounds, not as said");
         s.faulty(HEAD + "set 4 256;", 2, 31);
         s.faulty(HEAD + "set 99999999999 1;", 2, 31);
@@ -506,6 +519,9 @@ public final class EdgesOfTermsTest {
         s.due("its bit does not count", few.worth(2), 1);
         s.due("both", few.worth(1), 2);
         s.due("no EVENTS", Sentences.tell(HEAD).worth(255), 0);
+        CopyWhileRun acts = Sentences.tell(HEAD);
+        acts.does(0, 1, 1, 0);
+        s.due("acts alone stay", acts.worth(0), 1);
         s.of(TERMS, "They come in an order, each has what the set is worth more by it (below 0, too)");
         CopyWhileRun two = Sentences.tell(HEAD + "set 0 1;set 0 0;");
         s.row("share(0)", 0, w -> two.share(0, w), 1, 2);
