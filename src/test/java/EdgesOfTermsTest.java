@@ -373,6 +373,13 @@ public final class EdgesOfTermsTest {
         s.row("order of never CHANGED ones", 0, i -> never.order(0, i), 0, 1, 2, 3, 4);
         CopyWhileRun again = Sentences.tell(five(2, "set 4 1;full;finish;full;scan 2;"));
         s.row("order by a CHANGE ahead of another COPY", 0, i -> again.order(1, i), 4, 0, -1);
+        CopyWhileRun last = Sentences.tell(five(2, "tear;".repeat(38) + "set 1 1;set 4 1;"));
+        last.does(4, 0, 0, 0);
+        for (int i = 1; i < 19; i++) {
+            last.does(5, 0, 0, 0);
+        }
+        s.due("EVENT 59 scans", last.does(6, 32, 0, 0), 0);
+        s.row("order by EVENT 59", 0, i -> last.order(0, i), 4, 1, 0, 2, 3, -1);
         s.of(TERMS, "3: even numbers first, then odd ones, the least first");
         CopyWhileRun three = Sentences.tell(five(3, "full;scan 2;scan 2;scan 2;"));
         s.row("order", 0, i -> three.order(0, i), 0, 2, 4, 1, 3, -1);
