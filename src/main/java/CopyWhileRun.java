@@ -607,7 +607,7 @@ public final class CopyWhileRun {
     }
 
     private int rescuedByLaw(int law) {
-        trial.play(script, law, script.size(), 0L);
+        trial.play(script, law, 0L);
         return trial.allRescued();
     }
 
@@ -692,7 +692,7 @@ public final class CopyWhileRun {
     }
 
     private int wholeWithout(int event, int other, int x, int y) {
-        playWithout((long) x << event | (long) y << other);
+        trial.play(script, script.scanLaw, (long) x << event | (long) y << other);
         return trial.sizes(IS_WHOLE);
     }
 
@@ -722,7 +722,7 @@ public final class CopyWhileRun {
             int gone = Integer.bitCount(set);
             long weight = power(script.odds, gone) * power(10 - script.odds, k - gone);
             if (weight != 0L) {
-                playWithout((long) set << script.size() - k);
+                trial.play(script, script.scanLaw, (long) set << script.size() - k);
                 above += weight * Integer.bitCount(trial.dirtyCells & asked);
             }
         }
@@ -784,7 +784,7 @@ public final class CopyWhileRun {
         if (what == 0) {
             return Long.bitCount(out);
         }
-        playWithout(out);
+        trial.play(script, script.scanLaw, out);
         return Integer.bitCount(trial.dirtyCells);
     }
 
@@ -794,7 +794,7 @@ public final class CopyWhileRun {
         }
         int found = 0;
         for (int i = 0; i < n; i++) {
-            playWithout(drawOut((long) seed + i));
+            trial.play(script, script.scanLaw, drawOut((long) seed + i));
             if (holds(trial.dirtyCells, cell)) {
                 found++;
             }
@@ -974,10 +974,6 @@ public final class CopyWhileRun {
         for (int i = run.reached; i < tick && i < MOST_EVENTS; i++) {
             run.step(script, i);
         }
-    }
-
-    private void playWithout(long out) {
-        trial.play(script, script.scanLaw, script.size(), out);
     }
 
     // ---- small reckoning
@@ -1522,9 +1518,9 @@ public final class CopyWhileRun {
             Arrays.fill(changedBy, 0);
         }
 
-        void play(Script script, int law, int ticks, long out) {
+        void play(Script script, int law, long out) {
             clear(script.cells, law);
-            for (int i = 0; i < ticks && i < MOST_EVENTS; i++) {
+            for (int i = 0; i < script.size() && i < MOST_EVENTS; i++) {
                 if (!isOut(out, i)) {
                     step(script, i);
                 }
